@@ -1,0 +1,32 @@
+/** Counts and prints the calls whose answer is not the one that is due. */
+final class Due {
+    private static int wrong = 0;
+
+    private Due() {
+    }
+
+    static void is(String call, int want, int got) {
+        if (got != want) {
+            wrong++;
+            System.out.println(call + " answered " + got + ", due is " + want);
+        }
+    }
+
+    static void is(String call, boolean want, boolean got) {
+        if (got != want) {
+            wrong++;
+            System.out.println(call + " answered " + got + ", due is " + want);
+        }
+    }
+
+    static boolean someWrong() {
+        return wrong != 0;
+    }
+
+    static void end() {
+        System.out.println(wrong == 0 ? "all answers are as due" : wrong + " answers are not as due");
+        if (wrong != 0) {
+            System.exit(1);
+        }
+    }
+}
