@@ -18,6 +18,7 @@ public final class PromisesTest {
         promise6Link();
         promise6LastLink();
         promise7Learn();
+        promise7LearnLowersNoStamp();
         promise7LearnIsNeverFull();
         promise8LearnSome();
         promise8StampOfWhatWasLearned();
@@ -304,6 +305,21 @@ public final class PromisesTest {
             Due.is("7: bad before same", CrdtTable.BAD_REPLICA, x.learn(bad, bad));
         }
         Due.is("7: refused calls taught nothing", 4, x.known(0));
+    }
+
+    private static void promise7LearnLowersNoStamp() {
+        CrdtTable x = new CrdtTable();
+        x.add(0, 0);
+        x.name(0, 0, 1);
+        x.name(0, 0, 2);
+        x.add(2, 0);
+        x.learn(0, 2);
+        x.name(0, 0, 3);
+        Due.is("7: stamp 4 after learning stamp 1", 3, x.nameOf(0, 0));
+        x.learn(1, 0);
+        x.name(1, 0, 10);
+        x.learn(0, 1);
+        Due.is("7: stamp 5 at the replica that learned", 10, x.nameOf(0, 0));
     }
 
     private static void promise7LearnIsNeverFull() {
