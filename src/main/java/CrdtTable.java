@@ -97,7 +97,7 @@ public final class CrdtTable {
             return 0;
         }
         int total = 0;
-        for (int action = 0; action < actionsDone; action++) {
+        for (int action = 0; action < MOST_ACTIONS; action++) {
             if (isKnown(replica, action) && isOf(action, COUNT, row)) {
                 total += actionValue[action];
             }
@@ -143,7 +143,7 @@ public final class CrdtTable {
             return BAD_REPLICA;
         }
         int found = 0;
-        for (int action = 0; action < actionsDone; action++) {
+        for (int action = 0; action < MOST_ACTIONS; action++) {
             if (isKnown(replica, action)) {
                 found++;
             }
@@ -221,7 +221,7 @@ public final class CrdtTable {
             return SAME;
         }
         int learned = 0;
-        for (int action = 0; action < actionsDone && learned < most; action++) {
+        for (int action = 0; action < MOST_ACTIONS && learned < most; action++) {
             if (isKnown(from, action) && !isKnown(to, action)) {
                 learnAction(to, action);
                 learned++;
@@ -239,7 +239,7 @@ public final class CrdtTable {
 
     private long knownAdds(int replica, int row) {
         long adds = 0L;
-        for (int action = 0; action < actionsDone; action++) {
+        for (int action = 0; action < MOST_ACTIONS; action++) {
             if (isKnown(replica, action) && isOf(action, ADD, row)) {
                 adds |= 1L << action;
             }
@@ -249,7 +249,7 @@ public final class CrdtTable {
 
     private long knownCancels(int replica, int row) {
         long cancelled = 0L;
-        for (int action = 0; action < actionsDone; action++) {
+        for (int action = 0; action < MOST_ACTIONS; action++) {
             if (isKnown(replica, action) && isOf(action, DROP, row)) {
                 cancelled |= actionCancels[action];
             }
@@ -259,7 +259,7 @@ public final class CrdtTable {
 
     private int lastKnown(int replica, int kind, int row) {
         int last = NO_ACTION;
-        for (int action = 0; action < actionsDone; action++) {
+        for (int action = 0; action < MOST_ACTIONS; action++) {
             if (isKnown(replica, action) && isOf(action, kind, row)
                     && (last == NO_ACTION || isLater(action, last))) {
                 last = action;

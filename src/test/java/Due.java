@@ -1,22 +1,31 @@
 /** Counts and prints the calls whose answer is not the one that is due. */
 final class Due {
     private static int wrong = 0;
+    private static String sentence = "";
 
     private Due() {
     }
 
+    /** The calls that follow are due by this sentence of the document; their report names it. */
+    static void bySentence(String words) {
+        sentence = "[" + words + "] ";
+    }
+
     static void is(String call, int want, int got) {
         if (got != want) {
-            wrong++;
-            System.out.println(call + " answered " + got + ", due is " + want);
+            report(call, "" + want, "" + got);
         }
     }
 
     static void is(String call, boolean want, boolean got) {
         if (got != want) {
-            wrong++;
-            System.out.println(call + " answered " + got + ", due is " + want);
+            report(call, "" + want, "" + got);
         }
+    }
+
+    private static void report(String call, String want, String got) {
+        wrong++;
+        System.out.println(sentence + call + " answered " + got + ", due is " + want);
     }
 
     static boolean someWrong() {
