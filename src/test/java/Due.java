@@ -23,6 +23,12 @@ final class Due {
         }
     }
 
+    static void is(String call, String want, String got) {
+        if (!got.equals(want)) {
+            report(call, want, got);
+        }
+    }
+
     private static void report(String call, String want, String got) {
         wrong++;
         System.out.println(sentence + call + " answered " + got + ", due is " + want);
